@@ -221,6 +221,9 @@ public final class PromiseTest {
         due("9: was asked", x.shuttle(0, 7, 7, 1), 5);
         x.ways(0, 1, 0, 0);
         due("9: needs no asking then", x.way(0, 0), 7);
+        due("9: each minute", x.shuttle(0, 10, 30, 1), 4);
+        x.ways(0, 1, 0, 13);
+        due("9: at minute 13", x.way(0, 0), 13);
         due("9: LAST counts", x.shuttle(0, 10, 30, 20), 4);
         x.ways(0, 1, 0, 11);
         due("9: at LAST", x.way(0, 0), 30);
@@ -244,6 +247,10 @@ public final class PromiseTest {
         due("10: was asked", x.asked(0, 600), 5);
         x.ways(0, 1, 0, 0);
         due("10: ahead anew", x.way(0, 0), 600);
+        due("10: the least AHEAD", x.asked(0, 1), 5);
+        x.ways(0, 1, 0, 30);
+        due("10: not at once", x.way(0, 0), 60);
+        x.asked(0, 600);
         addTrip(x, 0, 0, 2, 900, 900, 0, 905, 905);
         due("10: behind a ride", x.ways(2, 1, 0, 295), 1);
         due("10: counts from the question", x.leg(0, 1, 4), 930);
@@ -461,6 +468,119 @@ public final class PromiseTest {
         due("13: missed by a minute", x.way(0, 0), 1555);
     }
 
+    /** Seven legs: a walk ahead of the rides and one behind each of the three. */
+    private static void wayOfSevenLegs() {
+        ConnectionDesk x = withStops(8);
+        for (int n = 0; n < 4; n++) {
+            x.walk(2 * n, 2 * n + 1, 5);
+        }
+        for (int n = 0; n < 3; n++) {
+            addTrip(x, 0, 0, 2 * n + 1, 20 * n + 5, 20 * n + 5, 2 * n + 2, 20 * n + 20, 20 * n + 20);
+        }
+        for (int round = 0; round < 2; round++) {
+            due("13: one way of seven legs", x.ways(0, 7, 0, 0), 1);
+            dueWay("14: seven legs", x, 0, 0, 65, 3, 0, 7);
+            for (int k = 0; k < 7; k++) {
+                int begins = k / 2 * 20 + k % 2 * 5;
+                dueLeg("15: leg " + k, x, 0, k, k % 2 == 0 ? 3 : 0, k / 2, k, k + 1, begins, begins + (k % 2 == 0 ? 5 : 15));
+            }
+            due("16: its ticket", x.take(0), round);
+            due("19: comes", x.comes(round), 65);
+        }
+        x.late(2, 0, 0, 1);
+        due("18: the last ride waits", x.still(0), 0);
+        x.late(1, 0, 1, 2);
+        due("18: not long enough", x.still(1), 6);
+    }
+
+    /** The ride before must leave time for the CHANGE, or for the walk, that was found behind it. */
+    private static void leastRideInTime() {
+        ConnectionDesk x = new ConnectionDesk();
+        x.stop(0, 0);
+        x.stop(10, 0);
+        x.stop(0, 0);
+        addTrip(x, 0, 0, 0, 100, 100, 1, 111, 111);
+        addTrip(x, 0, 0, 0, 100, 100, 1, 110, 110);
+        addTrip(x, 0, 0, 1, 120, 120, 2, 130, 130);
+        x.ways(0, 2, 0, 90);
+        due("13: the trip with time for the CHANGE", x.leg(0, 0, 1), 1);
+        ConnectionDesk y = withStops(4);
+        addTrip(y, 0, 0, 0, 100, 100, 1, 111, 111);
+        addTrip(y, 0, 0, 0, 100, 100, 1, 110, 110);
+        addTrip(y, 0, 0, 2, 120, 120, 3, 130, 130);
+        y.walk(1, 2, 10);
+        y.ways(0, 3, 0, 90);
+        due("13: the trip with time for the walk", y.leg(0, 0, 1), 1);
+        due("13: that day", y.way(0, 1), 130);
+    }
+
+    /** At a stop one comes too late for its CHANGE, but can get off before and walk there. */
+    private static void walkInsteadOfTheChange() {
+        ConnectionDesk x = new ConnectionDesk();
+        x.stop(0, 0);
+        x.stop(30, 0);
+        x.stop(30, 0);
+        x.stop(0, 0);
+        addTrip(x, 0, 0, 0, 100, 100, 2, 105, 105, 1, 110, 110);
+        addTrip(x, 0, 0, 1, 115, 115, 3, 120, 120);
+        x.walk(2, 1, 10);
+        x.ways(0, 3, 0, 100);
+        dueWay("13: by the walk", x, 0, 100, 120, 2, 0, 3);
+        dueLeg("13: off before", x, 0, 0, 0, 0, 0, 2, 100, 105, 0, 0, 1);
+        dueLeg("13: and on foot", x, 0, 1, 3, 0, 2, 1, 105, 115, -1, -1, -1);
+    }
+
+    /** All trips of three days, and all that can be late beside them: the last ones count, too. */
+    private static void waysOfManyRuns() {
+        ConnectionDesk x = withStops(3);
+        for (int t = 0; t < 24; t++) {
+            x.trip(2, 127, 1);
+            x.call(t, 0, 600, 600);
+            x.call(t, t == 23 ? 2 : 1, 2000 + t, 2000 + t);
+        }
+        for (int n = 0; n < 60; n++) {
+            due("11: late", x.late(n % 12, 8 - n / 12, 1, 240), 240);
+        }
+        due("13: the last trip", x.ways(0, 2, 20, 0), 1);
+        due("13: of the day", x.leg(0, 0, 6), 20);
+        due("13: by its end", x.ways(0, 2, 20, 601), 0);
+        x.late(23, 20, 1, 240);
+        due("13: the next day", x.ways(0, 1, 10, 0), 1);
+        ConnectionDesk y = withStops(2);
+        for (int t = 0; t < 24; t++) {
+            addTrip(y, 2, 1, 0, 0, 2800, 1, 2879, 2879);
+        }
+        for (int n = 0; n < 60; n++) {
+            // Six of each trip and day: 1440 minutes late, so that those of day 8 can be ridden on day 10.
+            due("11: late", y.late(n / 6, 8, 0, 240), 240 * (n % 6 + 1));
+        }
+        for (int t = 0; t < 24; t++) {
+            y.gone(t, 9, t < 23);
+        }
+        due("13: late ones and the others", y.ways(0, 1, 10, 0), 1);
+        due("13: the least of the late ones", y.leg(0, 0, 6) * 100 + y.leg(0, 0, 1), 800);
+        for (int n = 0; n < 10; n++) {
+            due("13: by take", y.take(0), n);
+            y.ways(0, 1, 10, 0);
+        }
+        due("13: when all late ones are full", y.leg(0, 0, 6) * 100 + y.leg(0, 0, 1), 923);
+    }
+
+    private static void waysAtTheTimeOfTheQuestion() {
+        ConnectionDesk x = withStops(2);
+        addTrip(x, 0, 0, 0, 100, 100, 1, 100, 100);
+        due("13: gets on and off at its TIME", x.ways(0, 1, 0, 100), 1);
+        dueWay("13: in no time", x, 0, 100, 100, 1, 0, 1);
+        x.fare(0, 0, 1);
+        x.ways(0, 1, 0, 100);
+        due("13: a fare of 1", x.way(0, 3), 1);
+        ConnectionDesk y = withStops(1);
+        y.ways(0, 0, 0, 0);
+        y.take(0);
+        due("18: at TIME 0", y.still(0), 0);
+        due("19: at TIME 0", y.comes(0), 0);
+    }
+
     private static void wayAndLeg() {
         ConnectionDesk x = new ConnectionDesk();
         x.stop(0, 0);
@@ -523,6 +643,27 @@ public final class PromiseTest {
         due("20: at call 1", x.taken(0, 0, 1), 1);
         due("20: never at the last call", x.taken(0, 0, 2), 0);
         due("20: not on another day", x.taken(0, 1, 0), 0);
+    }
+
+    private static void takeFromANight() {
+        ConnectionDesk x = withStops(3);
+        addTrip(x, 2, 1, 0, 10, 10, 1, 20, 20, 2, 30, 30);
+        x.ways(1, 2, 0, 0);
+        due("16: from call 1 on", x.take(0), 0);
+        x.give(0);
+        x.ways(0, 1, 0, 0);
+        due("16: to call 1", x.take(0), 1);
+        due("16: full", x.take(0), -2);
+        x.give(1);
+        ConnectionDesk y = withStops(3);
+        addTrip(y, 2, 1, 0, 10, 10, 1, 20, 20, 2, 30, 30);
+        y.ways(1, 2, 0, 0);
+        y.take(0);
+        y.ways(0, 1, 0, 0);
+        due("16: a full call where it gets off", y.take(0), 1);
+        y.give(0);
+        due("20: other places stay", y.taken(0, 0, 0), 1);
+        due("20: its place is free", y.taken(0, 0, 1), 0);
     }
 
     private static void takeUpToThirty() {
@@ -781,6 +922,11 @@ public final class PromiseTest {
         due("22: from there", x.reach(2, 0, 0, 4), 4);
         due("22: by the walk", x.reach(2, 99, 1439, 5), 12);
         x.gone(0, 99, true);
+        x.walk(3, 4, 240);
+        x.shuttle(1, 1200, 1200, 1);
+        due("22: at the end of the next day", x.reach(3, 5, 1201, HIGH), 8);
+        x.shuttle(1, 1199, 1199, 1);
+        due("22: before the end", x.reach(3, 5, 1201, HIGH), 24);
         due("22: nothing behind day 99", x.reach(0, 99, 0, HIGH), 1);
         int[][] refused = {{-1, 0, 0, 0}, {5, 0, 0, 0}, {0, -1, 0, 0}, {0, 100, 0, 0}, {0, 0, -1, 0}, {0, 0, 1440, 0}, {0, 0, 0, -1}, {0, 0, 0, LOW}};
         for (int[] r : refused) {
@@ -788,8 +934,28 @@ public final class PromiseTest {
         }
     }
 
+    private static void reachByThreeRides() {
+        ConnectionDesk x = withStops(5);
+        x.fare(0, 0, 9);
+        for (int s = 0; s < 4; s++) {
+            addTrip(x, 0, 0, s, 10 + 10 * s, 10 + 10 * s, s + 1, 15 + 10 * s, 15 + 10 * s);
+        }
+        due("22: by three rides, not by four", x.reach(0, 0, 0, HIGH), 15);
+        due("21: by three rides", x.latest(0, 3, 0, 35), 10);
+        due("23: by three rides", x.meet(9, 0, 0), 3);
+        due("24: by three rides", x.met(), 35);
+        x.late(2, 0, 1, 240);
+        for (int n = 0; n < 11; n++) {
+            x.late(2, 0, 1, 240);
+        }
+        x.gone(2, 1, true);
+        due("22: comes at 2915, too late", x.reach(0, 0, 0, HIGH), 7);
+    }
+
     private static void meet() {
         ConnectionDesk x = withStops(4);
+        due("23: at stop 0", x.meet(1, 1, 4), 0);
+        due("24: at stop 0", x.met(), 1444);
         due("23: alone", x.meet(4, 1, 5), 2);
         due("24: at once", x.met(), 1445);
         due("23: cannot meet", x.meet(3, 2, 5), -1);
@@ -888,8 +1054,14 @@ public final class PromiseTest {
         waysOfEqualWorthByWalks();
         waysOfEqualWorthByDays();
         changesAndWalksBetweenRides();
+        wayOfSevenLegs();
+        leastRideInTime();
+        walkInsteadOfTheChange();
+        waysOfManyRuns();
+        waysAtTheTimeOfTheQuestion();
         wayAndLeg();
         take();
+        takeFromANight();
         takeUpToThirty();
         takeOneTripTwice();
         takeOverlapping();
@@ -901,6 +1073,7 @@ public final class PromiseTest {
         seatsOnTheWay();
         latest();
         reach();
+        reachByThreeRides();
         meet();
         table();
         count();
