@@ -835,6 +835,23 @@ public final class PromiseTest {
         due("19: at the question's TIME", y.comes(1), 3 * 1440 + 5);
     }
 
+    private static void stillWithTheChangeOfItsStop() {
+        ConnectionDesk x = new ConnectionDesk();
+        x.stop(0, 0);
+        x.stop(9, 0);
+        x.stop(0, 0);
+        x.stop(30, 0);
+        addTrip(x, 0, 0, 0, 100, 100, 1, 110, 110);
+        addTrip(x, 0, 0, 3, 100, 100, 1, 120, 120, 2, 130, 130);
+        x.ways(0, 2, 0, 100);
+        due("18: ticket", x.take(0), 0);
+        due("18: the CHANGE of stop 1", x.still(0), 0);
+        x.late(0, 0, 1, 1);
+        due("18: just enough", x.still(0), 0);
+        x.late(0, 0, 1, 1);
+        due("18: not enough", x.still(0), 2);
+    }
+
     private static void stillWithAWalkAhead() {
         ConnectionDesk x = new ConnectionDesk();
         x.stop(30, 0);
@@ -950,6 +967,15 @@ public final class PromiseTest {
         }
         x.gone(2, 1, true);
         due("22: comes at 2915, too late", x.reach(0, 0, 0, HIGH), 7);
+        ConnectionDesk y = withStops(2);
+        y.trip(2, 1, 1);
+        y.call(0, 0, 1440, 1440);
+        y.call(0, 1, 2879, 2879);
+        due("22: a ride before the end of the next day", y.reach(0, 0, 0, HIGH), 3);
+        y.late(0, 0, 1, 1);
+        due("22: a ride at the end of the next day", y.reach(0, 0, 0, HIGH), 1);
+        due("21: a ride at the end of the next day", y.latest(0, 1, 0, HIGH), -1);
+        due("23: a ride at the end of the next day", y.meet(3, 0, 0), -1);
     }
 
     private static void meet() {
@@ -1068,6 +1094,7 @@ public final class PromiseTest {
         give();
         still();
         stillRuns();
+        stillWithTheChangeOfItsStop();
         stillWithAWalkAhead();
         taken();
         seatsOnTheWay();
