@@ -6,6 +6,7 @@ import java.util.Random;
 public final class OracleTest {
     private static int wrong;
     private static long asked;
+    private static int mostWays;
 
     private final Random random;
     private final ConnectionDesk desk = new ConnectionDesk();
@@ -197,6 +198,7 @@ public final class OracleTest {
     }
 
     private void readWays() {
+        mostWays = Math.max(mostWays, plain.hand.size());
         for (int i = -1; i <= plain.hand.size(); i++) {
             for (int what = -1; what <= 5; what++) {
                 same("way(" + i + ", " + what + ")", desk.way(i, what), plain.way(i, what));
@@ -260,6 +262,74 @@ public final class OracleTest {
         }
     }
 
+    /**
+     * A network with many ways that are not beaten: the more rides, the sooner they come. Stops 0 to 3
+     * and 4 to 7 are of zones 0 to 3, stop 8 is where one wants to be. Trips as rows: from, leaves, to, comes.
+     */
+    private static int[][] richTrips(Random r) {
+        int[][] rows = new int[24][];
+        for (int n = 0; n < 24; n++) {
+            int early = n < 4 ? 300 : n < 10 ? 150 : n < 14 ? 60 : n < 18 ? 5 : n < 21 ? 35 : 65;
+            int spread = n < 14 ? 50 : 10;
+            int from = n < 4 ? n : n >= 10 && n < 18 ? r.nextInt(4) : 4 + r.nextInt(4);
+            int to = n < 10 || n >= 21 ? 8 : n < 18 ? 4 + (n - 10) % 4 : 4 + (from + 1 + r.nextInt(3)) % 4;
+            rows[n] = new int[] {from, early + r.nextInt(spread), to, early + spread + r.nextInt(2 * spread)};
+        }
+        return rows;
+    }
+
+    private static int buildRich(ConnectionDesk x, Random r) {
+        for (int s = 0; s < 9; s++) {
+            x.stop(0, s == 8 ? 3 : s % 4);
+        }
+        for (int z = 0; z < 16; z++) {
+            x.fare(z / 4, z % 4, r.nextInt(10));
+        }
+        for (int s = 1; s < 4; s++) {
+            x.walk(0, s, s);
+        }
+        for (int[] row : richTrips(r)) {
+            int trip = x.trip(0, 1, 0);
+            x.call(trip, row[0], row[1], row[1]);
+            x.call(trip, row[2], row[3], row[3]);
+        }
+        return x.ways(0, 8, 0, 0);
+    }
+
+    /** The same on the plain desk, as the same numbers are drawn. */
+    private static int buildRich(PlainDesk x, Random r) {
+        for (int s = 0; s < 9; s++) {
+            x.stop(0, s == 8 ? 3 : s % 4);
+        }
+        for (int z = 0; z < 16; z++) {
+            x.fare(z / 4, z % 4, r.nextInt(10));
+        }
+        for (int s = 1; s < 4; s++) {
+            x.walk(0, s, s);
+        }
+        for (int[] row : richTrips(r)) {
+            int trip = x.trip(0, 1, 0);
+            x.call(trip, row[0], row[1], row[1]);
+            x.call(trip, row[2], row[3], row[3]);
+        }
+        return x.ways(0, 8, 0, 0);
+    }
+
+    /** Compares that one of many rich networks which has the most ways. */
+    private void runRich(long firstSeed, int seeds) {
+        long best = firstSeed;
+        int most = -1;
+        for (long seed = firstSeed; seed < firstSeed + seeds; seed++) {
+            int ways = buildRich(new ConnectionDesk(), new Random(seed));
+            if (ways > most) {
+                most = ways;
+                best = seed;
+            }
+        }
+        same("rich " + best, buildRich(desk, new Random(best)), buildRich(plain, new Random(best)));
+        readWays();
+    }
+
     private void run(int steps) {
         build();
         for (int n = 0; n < steps; n++) {
@@ -286,11 +356,14 @@ public final class OracleTest {
 
     public static void main(String[] args) {
         long first = args.length > 1 ? Long.parseLong(args[1]) : 1;
-        int runs = args.length > 2 ? Integer.parseInt(args[2]) : 400;
+        int runs = args.length > 2 ? Integer.parseInt(args[2]) : 300;
         for (long seed = first; seed < first + runs && wrong == 0; seed++) {
             new OracleTest(seed).run(30);
         }
-        System.out.println(wrong + " of " + asked + " answers are not as due");
+        for (long seed = first; seed < first + 50 && wrong == 0; seed++) {
+            new OracleTest(seed).runRich(1000 * seed, 100);
+        }
+        System.out.println(wrong + " of " + asked + " answers are not as due; up to " + mostWays + " ways at hand");
         if (wrong != 0) {
             System.exit(1);
         }

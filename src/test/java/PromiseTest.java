@@ -493,6 +493,31 @@ public final class PromiseTest {
         due("18: not long enough", x.still(1), 6);
     }
 
+    /** As many tickets as there can be, each in three trips of a day of its own. */
+    private static void ticketsOfSevenLegs() {
+        ConnectionDesk x = withStops(8);
+        for (int n = 0; n < 4; n++) {
+            x.walk(2 * n, 2 * n + 1, 5);
+        }
+        for (int n = 0; n < 3; n++) {
+            addTrip(x, 1, 1, 2 * n + 1, 20 * n + 5, 20 * n + 5, 2 * n + 2, 20 * n + 20, 20 * n + 20);
+        }
+        for (int d = 0; d < 30; d++) {
+            x.ways(0, 7, 99 - d, 0);
+            due("16: ticket " + d, x.take(0), d);
+        }
+        for (int round = 0; round < 2; round++) {
+            for (int n = 0; n < 90; n++) {
+                due("20: place", x.taken(n % 3, 99 - n / 3, 0), 1 - round);
+                due("13: none is left, or all", x.ways(2 * (n % 3) + 1, 2 * (n % 3) + 2, 99 - n / 3, 0), round);
+            }
+            for (int d = 0; d < 30; d++) {
+                due("18: can be travelled", x.still(d), round == 0 ? 0 : -2);
+                due("17: given back", x.give(d), round == 0 ? 1 : -2);
+            }
+        }
+    }
+
     /** The ride before must leave time for the CHANGE, or for the walk, that was found behind it. */
     private static void leastRideInTime() {
         ConnectionDesk x = new ConnectionDesk();
@@ -1081,6 +1106,7 @@ public final class PromiseTest {
         waysOfEqualWorthByDays();
         changesAndWalksBetweenRides();
         wayOfSevenLegs();
+        ticketsOfSevenLegs();
         leastRideInTime();
         walkInsteadOfTheChange();
         waysOfManyRuns();
