@@ -570,10 +570,8 @@ public final class ConnectionDesk {
             if (kind[walk] == KIND_WALK) {
                 return time;
             }
-            if (kind[walk] == KIND_ASKED) {
-                return nextBeginning(walk, Math.max(time, askedAt + ahead[walk]));
-            }
-            return nextBeginning(walk, time);
+            boolean mustWait = kind[walk] == KIND_ASKED && time < askedAt + ahead[walk];
+            return nextBeginning(walk, mustWait ? askedAt + ahead[walk] : time);
         }
 
         int endsAt(int walk, int time, int askedAt) {
@@ -586,7 +584,7 @@ public final class ConnectionDesk {
             if (minute <= first[walk]) {
                 return midnight + first[walk];
             }
-            int step = Math.max(1, every[walk]);
+            int step = every[walk] < 1 ? DAY : every[walk];
             int next = first[walk] + (minute - first[walk] + step - 1) / step * step;
             return next <= last[walk] ? midnight + next : midnight + DAY + first[walk];
         }
