@@ -153,6 +153,63 @@ public final class EdgesOfTheTicketsTest {
         }
     }
 
+    /** Off and on again at one call is one place there, for it gets off before. */
+    private static void takeOneTripTwiceInARow() {
+        ConnectionDesk x = new ConnectionDesk();
+        x.stop(0, 0);
+        x.stop(0, 1);
+        x.stop(0, 2);
+        x.fare(0, 2, 9);
+        Edges.addTripOf(x, 1, 1, 1, 0, 10, 10, 1, 20, 20, 2, 30, 30);
+        Edges.due(16, "one ride, or two for less", x.ways(0, 2, 0, 0), 2);
+        Edges.due(16, "two rides", x.way(1, 2), 2);
+        Edges.due(16, "a place at each call", x.take(1), 0);
+        Edges.due(16, "where it gets on", x.taken(0, 0, 0), 1);
+        Edges.due(16, "where it gets off and on", x.taken(0, 0, 1), 1);
+        Edges.due(16, "where it gets off", x.taken(0, 0, 2), 0);
+        Edges.due(16, "no place is left", x.take(0), -2);
+        Edges.due(18, "its places being its own", x.still(0), 0);
+    }
+
+    /** What a longer way of an earlier question rode takes no place of a shorter one. */
+    private static void takeAShorterWayThanBefore() {
+        ConnectionDesk x = Edges.desk(3);
+        Edges.addTripOf(x, 1, 1, 1, 0, 10, 10, 1, 20, 20);
+        Edges.addTripOf(x, 1, 1, 1, 1, 30, 30, 2, 40, 40);
+        Edges.due(16, "two rides", x.ways(0, 2, 0, 0), 1);
+        Edges.due(16, "the second alone", x.ways(1, 2, 0, 0), 1);
+        Edges.due(16, "has a place", x.take(0), 0);
+        Edges.due(16, "none in the first", x.taken(0, 0, 0), 0);
+        Edges.due(16, "one in the second", x.taken(1, 0, 0), 1);
+        x.give(0);
+        Edges.due(17, "free", x.taken(1, 0, 0), 0);
+    }
+
+    /** Two tickets of seven legs each, and one that is given back: each has its own legs. */
+    private static void takeSevenLegs() {
+        ConnectionDesk x = Edges.desk(8);
+        for (int n = 0; n < 3; n++) {
+            Edges.addTrip(x, 1, 50, 2 * n + 1, 20 * n + 5, 20 * n + 5, 2 * n + 2, 20 * n + 20, 20 * n + 20);
+        }
+        for (int n = 0; n < 4; n++) {
+            x.walk(2 * n, 2 * n + 1, 5);
+        }
+        for (int n = 0; n < 3; n++) {
+            x.ways(0, 7, 10 * n, 0);
+            Edges.due(16, "seven legs", x.way(0, 4), 7);
+            Edges.due(16, "a ticket", x.take(0), n);
+        }
+        for (int n = 0; n < 3; n++) {
+            Edges.due(19, "its own day", x.comes(n), 14400 * n + 65);
+            x.gone(2, 10 * n, true);
+            Edges.due(18, "its own last ride", x.still(n), 6);
+            Edges.due(20, "its own place", x.taken(2, 10 * n, 0), 1);
+        }
+        x.give(1);
+        Edges.due(17, "those of the others stay", x.taken(2, 0, 0) + x.taken(2, 20, 0), 2);
+        Edges.due(17, "its own are free", x.taken(0, 10, 0) + x.taken(1, 10, 0) + x.taken(2, 10, 0), 0);
+    }
+
     // ---- Promise 17: give
 
     private static void giveRefused() {
@@ -442,6 +499,9 @@ public final class EdgesOfTheTicketsTest {
         takeWhenNoPlaceIsLeftAtOneCall();
         takeAsAllIsSince();
         takePlacesOfTheWayItself();
+        takeOneTripTwiceInARow();
+        takeAShorterWayThanBefore();
+        takeSevenLegs();
         giveRefused();
         giveFreesItsPlaces();
         stillRefused();

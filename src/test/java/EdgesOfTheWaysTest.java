@@ -136,6 +136,32 @@ public final class EdgesOfTheWaysTest {
         Edges.due(13, "day 0", y.leg(0, 0, 6), 0);
     }
 
+    /**
+     * As many trips of days as can count for a question: of 24 NIGHTS those of the day before, of the day
+     * and of the next one, which is the only one in time; and beside them those that are LATE so long.
+     */
+    private static void tripsOfManyDays() {
+        ConnectionDesk x = Edges.desk(3);
+        for (int t = 0; t < 24; t++) {
+            x.trip(2, 127, 1);
+            x.call(t, 0, 0, 0);
+            x.call(t, t == 23 ? 2 : 1, 700, 700);
+            x.call(t, 1, 2879, 2879);
+        }
+        for (int t = 0; t < 24; t++) {
+            Edges.due(11, "LATE to the question's day", x.late(t, 48, 2, 240), 240);
+        }
+        for (int n = 0; n < 36; n++) {
+            Edges.due(11, "LATE by more than a day", x.late(n / 7, 47, 2, 240), 240 * (n % 7 + 1));
+        }
+        Edges.due(13, "of the next day, the greatest trip", x.ways(0, 2, 50, 1), 1);
+        Edges.dueLeg(13, "of the next day", x, 0, 0, 2, 23, 0, 2, 51 * 1440, 51 * 1440 + 700, 51, 0, 1);
+        Edges.due(22, "of the next day", x.reach(0, 50, 1, 2139), 7);
+        Edges.due(21, "of the next day", x.latest(0, 2, 50, 51 * 1440 + 700), 1439);
+        Edges.due(13, "of the day, from call 1 on", x.ways(2, 1, 50, 0), 1);
+        Edges.due(13, "the night of the day before is gone by", x.leg(0, 0, 6), 50);
+    }
+
     private static void getsOnNotBeforeTheQuestion() {
         ConnectionDesk x = Edges.desk(2);
         Edges.addTripOf(x, 0, 1, 0, 0, 100, 105, 1, 110, 110);
@@ -295,6 +321,30 @@ public final class EdgesOfTheWaysTest {
         }
     }
 
+    /** The trip comes twice to where one gets on; between lies a call that is full. */
+    private static void placesFromALaterCallOn() {
+        for (int seats = 1; seats <= 2; seats++) {
+            ConnectionDesk x = Edges.desk(3);
+            Edges.addTripOf(x, 1, 1, seats, 0, 10, 10, 1, 20, 20, 0, 30, 30, 2, 40, 40);
+            x.ways(1, 0, 0, 0);
+            x.take(0);
+            x.ways(0, 2, 0, 0);
+            Edges.dueLeg(13, "SEATS " + seats, x, 0, 0, 1, 0, 0, 2, seats == 1 ? 30 : 10, 40, 0, seats == 1 ? 2 : 0, 3);
+        }
+    }
+
+    /** The trip comes twice to where one gets off; between lies a call that is full. */
+    private static void placesToASoonerCall() {
+        ConnectionDesk x = Edges.desk(3);
+        Edges.addTripOf(x, 2, 1, 1, 0, 10, 10, 1, 20, 20, 2, 30, 30, 1, 40, 40);
+        x.ways(1, 2, 0, 0);
+        x.take(0);
+        x.ways(0, 1, 0, 0);
+        Edges.dueLeg(13, "up to the full call", x, 0, 0, 2, 0, 0, 1, 10, 20, 0, 0, 1);
+        x.miss(0, 1, true);
+        Edges.due(13, "over the full call", x.ways(0, 1, 0, 0), 0);
+    }
+
     private static void placesAreOfADay() {
         ConnectionDesk x = Edges.desk(2);
         Edges.addTrip(x, 1, 1, 0, 10, 10, 1, 20, 20);
@@ -401,6 +451,48 @@ public final class EdgesOfTheWaysTest {
     }
 
     // ---- Promise 13: of equal arrival, rides and fare the lesser one, from the end backwards
+
+    /**
+     * One ride for each fare 0 to 9, two rides for each fare 9 to 18, and a walk: each comes sooner for
+     * more. Stops 0 to 3 are of zones 0 to 3, so are 4 to 7, where one ends, and 8 to 11 between.
+     */
+    private static void oneForEachThatIsNotBeaten() {
+        ConnectionDesk x = new ConnectionDesk();
+        for (int s = 0; s < 12; s++) {
+            x.stop(0, s % 4);
+        }
+        for (int n = 0; n < 16; n++) {
+            x.fare(n / 4, n % 4, Math.min(n, 9));
+        }
+        x.walk(0, 4, 240);
+        for (int zone = 1; zone < 4; zone++) {
+            x.walk(0, zone, 1);
+            x.walk(4 + zone, 4, 1);
+            x.walk(8, 8 + zone, 1);
+        }
+        for (int f = 0; f < 10; f++) {
+            int on = f / 4;
+            int off = f % 4;
+            int walk = off == 0 ? 0 : 1;
+            Edges.addTripOf(x, 0, 1, 0, on, 10, 10, 4 + off, 200 - 10 * f - walk, 200 - 10 * f - walk);
+            Edges.addTripOf(x, 0, 1, 0, 8 + on, 25, 25, 4 + off, 105 - 5 * f - walk, 105 - 5 * f - walk);
+        }
+        Edges.addTripOf(x, 0, 1, 0, 3, 5, 5, 8, 20, 20);
+        Edges.due(13, "how many", x.ways(0, 4, 0, 0), 21);
+        for (int i = 0; i < 20; i++) {
+            int rides = i < 10 ? 2 : 1;
+            Edges.due(14, "in order, way " + i + " comes", x.way(i, 1), i < 10 ? 60 + 5 * i : 10 + 10 * i);
+            Edges.due(14, "in order, rides of way " + i, x.way(i, 2), rides);
+            Edges.due(14, "in order, fare of way " + i, x.way(i, 3), i < 10 ? 18 - i : 19 - i);
+            Edges.due(15, "the last trip of way " + i, x.leg(i, x.way(i, 4) - (x.leg(i, x.way(i, 4) - 1, 0) == 3 ? 2 : 1), 1),
+                    i < 10 ? 19 - 2 * i : 38 - 2 * i);
+        }
+        Edges.dueWay(14, "the walk is the last", x, 20, 0, 240, 0, 0, 1);
+        Edges.due(14, "no such way", x.way(21, 0), -2);
+        Edges.due(26, "ways at hand", x.count(3), 21);
+        Edges.due(16, "the last one can be taken", x.take(20), 0);
+        Edges.due(16, "no such way", x.take(21), -2);
+    }
 
     private static void noWalkIsLess() {
         ConnectionDesk x = Edges.desk(3);
@@ -629,6 +721,7 @@ public final class EdgesOfTheWaysTest {
         aWalkOrNone();
         aRideToWhereItBegan();
         tripsOfAnyOfTheDays();
+        tripsOfManyDays();
         getsOnNotBeforeTheQuestion();
         getsOnNotBeforeTheWalkComes();
         changesWithinOneTrip();
@@ -638,11 +731,14 @@ public final class EdgesOfTheWaysTest {
         comesBeforeTheEndByANight();
         comesBeforeTheEndByAWalk();
         placesFromICallToTheOneBeforeJ();
+        placesFromALaterCallOn();
+        placesToASoonerCall();
         placesAreOfADay();
         beatenWhenBetterInOne();
         beatenByFewerRides();
         beatenByAWalk();
         inOrderByRides();
+        oneForEachThatIsNotBeaten();
         noWalkIsLess();
         noWalkIsLessAheadOfARide();
         lesserWalkIsLess();

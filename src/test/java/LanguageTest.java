@@ -6,7 +6,9 @@ import java.lang.reflect.Modifier;
 import java.nio.file.Files;
 import java.nio.file.Path;
 import java.util.Arrays;
+import java.util.Map;
 import java.util.Set;
+import java.util.TreeMap;
 import java.util.TreeSet;
 import java.util.regex.Matcher;
 import java.util.regex.Pattern;
@@ -22,6 +24,13 @@ public final class LanguageTest {
     private static final String[] FORBIDDEN = {
         "throw", "throws", "try", "catch", "synchronized", "assert", "->", "::", "static \\{", "System\\.(?!arraycopy)",
         "Exact\\(", "hashCode", "toString", "native", "volatile", "var", "null", "interface", "double", "float"};
+
+    /** Of which class what a field is called is. */
+    private static final Map<String, String> OWNERS = Map.ofEntries(
+            Map.entry("stops", "Stops"), Map.entry("trips", "Trips"), Map.entry("walks", "Walks"), Map.entry("places", "Places"),
+            Map.entry("tickets", "Tickets"), Map.entry("runs", "Runs"), Map.entry("search", "Search"), Map.entry("found", "Found"),
+            Map.entry("board", "Board"), Map.entry("keys", "Sorted"), Map.entry("delays", "Delays"));
+    private static final Set<String> LIBRARY = Set.of("Math", "Arrays", "System");
 
     private static int wrong;
 
@@ -115,10 +124,75 @@ public final class LanguageTest {
         }
     }
 
+    /** The bodies of all methods by Class.method, as the indents of the source tell them. */
+    private static Map<String, String> bodies(String code) {
+        Map<String, String> bodies = new TreeMap<>();
+        String inside = "ConnectionDesk";
+        String name = "";
+        for (String line : code.split("\n")) {
+            Matcher nested = Pattern.compile("^    private static final class (\\w+) \\{").matcher(line);
+            Matcher method = Pattern.compile("^(?:    |        )(?! )(?!return|if|for|while|switch)[^=;]*?(\\w+)\\([^;]*\\) \\{$").matcher(line);
+            if (nested.find()) {
+                inside = nested.group(1);
+            } else if (line.equals("    }") && !inside.equals("ConnectionDesk") && name.isEmpty()) {
+                inside = "ConnectionDesk";
+            } else if (name.isEmpty() && method.find()) {
+                name = inside + "." + method.group(1);
+            } else if (!name.isEmpty() && line.equals(inside.equals("ConnectionDesk") ? "    }" : "        }")) {
+                name = "";
+            } else if (!name.isEmpty()) {
+                bodies.merge(name, line, (a, b) -> a + "\n" + b);
+            }
+        }
+        return bodies;
+    }
+
+    /** How many calls stand open at once, the library's own counted; 99 when a method calls itself. */
+    private static int depth(String method, Map<String, String> bodies, Set<String> open) {
+        if (!bodies.containsKey(method)) {
+            return 1;
+        }
+        if (!open.add(method)) {
+            return 99;
+        }
+        int most = 0;
+        Matcher call = Pattern.compile("(?:(\\w+)\\.)?(\\w+)\\(").matcher(bodies.get(method));
+        while (call.find()) {
+            String name = call.group(2);
+            if (name.matches("if|for|while|switch")) {
+                continue;
+            }
+            String own = method.substring(0, method.indexOf('.'));
+            String where = call.group(1) == null ? own : OWNERS.getOrDefault(call.group(1), call.group(1));
+            String called = where + "." + name;
+            if (call.group(1) == null && !bodies.containsKey(called)) {
+                called = "ConnectionDesk." + name;
+            }
+            due("the text tells what is called: " + called,
+                    bodies.containsKey(called) || LIBRARY.contains(where) || bodies.get(method).contains("new " + name + "("));
+            most = Math.max(most, depth(called, bodies, open));
+        }
+        open.remove(method);
+        return 1 + most;
+    }
+
+    private static void callDepth(String source) {
+        String code = source.replaceAll("(?s)/\\*.*?\\*/", "").replaceAll("//[^\n]*", "");
+        Map<String, String> bodies = bodies(code);
+        due("the text tells all methods: " + bodies.size(), bodies.size() > 90);
+        for (String row : FACE) {
+            String name = row.substring(0, row.indexOf('('));
+            due("found in the text: " + name, bodies.containsKey("ConnectionDesk." + name));
+            int depth = depth("ConnectionDesk." + name, bodies, new TreeSet<>());
+            due(name + " goes " + depth + " calls deep", depth <= 8);
+        }
+    }
+
     public static void main(String[] args) throws IOException {
         face();
         classesInside();
         text(Files.readString(Path.of(args[0])));
+        callDepth(Files.readString(Path.of(args[0])));
         System.out.println(wrong + " rules are not kept");
         if (wrong != 0) {
             System.exit(1);

@@ -509,7 +509,10 @@ public final class PromiseTest {
         for (int round = 0; round < 2; round++) {
             for (int n = 0; n < 90; n++) {
                 due("20: place", x.taken(n % 3, 99 - n / 3, 0), 1 - round);
-                due("13: none is left, or all", x.ways(2 * (n % 3) + 1, 2 * (n % 3) + 2, 99 - n / 3, 0), round);
+                // An object is used for at most 512 calls, so that not all can be asked for.
+                if (n % 4 == 0) {
+                    due("13: none is left, or all", x.ways(2 * (n % 3) + 1, 2 * (n % 3) + 2, 99 - n / 3, 0), round);
+                }
             }
             for (int d = 0; d < 30; d++) {
                 due("18: can be travelled", x.still(d), round == 0 ? 0 : -2);
