@@ -29,6 +29,24 @@ public final class EdgesOfTheWaysTest {
         Edges.due(19, "with its own question's TIME", x.comes(0), 2888);
     }
 
+    /** latest(), reach() and meet() ask for ways, too, but those at hand stay, with their question's TIME. */
+    private static void waysAtHandStayByOtherQuestions() {
+        ConnectionDesk x = Edges.desk(2);
+        x.walk(0, 1, 5);
+        x.shuttle(0, 0, 1439, 10);
+        x.asked(0, 30);
+        x.ways(0, 1, 2, 3);
+        Edges.due(21, "another question", x.latest(0, 1, 50, HIGH), 1439);
+        Edges.due(22, "another question", x.reach(0, 60, 7, 40), 3);
+        Edges.due(23, "another question", x.meet(3, 70, 9), 1);
+        Edges.due(13, "those at hand stay", x.count(3), 1);
+        Edges.dueWay(13, "as they were", x, 0, 2920, 2925, 0, 0, 1);
+        Edges.due(16, "it can be taken", x.take(0), 0);
+        Edges.due(19, "ASKED with the question's TIME", x.comes(0), 2925);
+        x.ways(0, 1, 80, 0);
+        Edges.due(19, "also behind another question", x.comes(0), 2925);
+    }
+
     private static void waysThatThereAreNone() {
         ConnectionDesk x = Edges.desk(2);
         x.walk(0, 1, 5);
@@ -715,6 +733,7 @@ public final class EdgesOfTheWaysTest {
     public static void main(String[] args) {
         waysRefused();
         waysAtHandStayWhenRefused();
+        waysAtHandStayByOtherQuestions();
         waysThatThereAreNone();
         waysToWhereOneIs();
         threeRidesAtMost();
