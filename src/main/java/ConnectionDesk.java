@@ -861,8 +861,8 @@ public final class ConnectionDesk {
         void ask(int from, int time, int dearestRide) {
             askedAt = time;
             dearest = dearestRide;
-            Arrays.fill(ended, 0, row(RIDES + 1, 0), NEVER);
-            Arrays.fill(ready, 0, row(RIDES, 0), NEVER);
+            Arrays.fill(ended, NEVER);
+            Arrays.fill(ready, NEVER);
             ended[from] = time;
             for (int rides = 1; rides <= RIDES; rides++) {
                 getReady(rides - 1);

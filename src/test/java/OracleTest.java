@@ -10,7 +10,9 @@ public final class OracleTest {
 
     private final Random random;
     private final ConnectionDesk desk = new ConnectionDesk();
-    private final PlainDesk plain = new PlainDesk();
+    private final PlainDesk plain;
+    /** As many stops, trips, calls and walks as there can be. */
+    private final boolean wide;
     private final List<String> said = new ArrayList<>();
     private final int stops;
     /** So many stops and trips lie ahead that are not used. */
@@ -19,9 +21,11 @@ public final class OracleTest {
     private final int span;
     private final int grid;
 
-    private OracleTest(long seed) {
+    private OracleTest(long seed, boolean wide) {
         random = new Random(seed);
-        stops = 2 + random.nextInt(5);
+        this.wide = wide;
+        plain = wide ? new WideDesk() : new PlainDesk();
+        stops = wide ? 12 : 2 + random.nextInt(5);
         skipped = random.nextInt(3) == 0 ? 12 - stops : 0;
         firstDay = random.nextInt(3) == 0 ? 97 : random.nextInt(3) == 0 ? random.nextInt(80) : 0;
         span = random.nextBoolean() ? 120 : 1440;
@@ -93,10 +97,10 @@ public final class OracleTest {
             int fare = rarely(upTo(random.nextBoolean() ? 2 : 9));
             same("fare(" + from + ", " + to + ", " + fare + ")", desk.fare(from, to, fare), plain.fare(from, to, fare));
         }
-        for (int n = 1 + upTo(5); n > 0; n--) {
+        for (int n = wide ? 24 : 1 + upTo(5); n > 0; n--) {
             addTrip();
         }
-        for (int n = upTo(4); n > 0; n--) {
+        for (int n = wide ? 4 + upTo(18) : upTo(4); n > 0; n--) {
             addWalk();
         }
     }
@@ -110,7 +114,7 @@ public final class OracleTest {
         if (kind == 2 && random.nextBoolean()) {
             comes += 1300;
         }
-        for (int n = 2 + upTo(random.nextInt(4) == 0 ? 7 : 3); n > 0; n--) {
+        for (int n = 2 + upTo(wide || random.nextInt(4) == 0 ? 7 : 3); n > 0; n--) {
             comes = addCall(plain.trips.size() - 1, comes);
         }
     }
@@ -357,11 +361,15 @@ public final class OracleTest {
     public static void main(String[] args) {
         long first = args.length > 1 ? Long.parseLong(args[1]) : 1;
         int runs = args.length > 2 ? Integer.parseInt(args[2]) : 300;
+        for (long seed = first; seed < first + (runs + 9) / 10 && wrong == 0; seed++) {
+            new OracleTest(seed, true).run(60);
+        }
+        System.out.println("wide networks: " + asked + " answers, up to " + mostWays + " ways at hand");
         for (long seed = first; seed < first + runs && wrong == 0; seed++) {
-            new OracleTest(seed).run(30);
+            new OracleTest(seed, false).run(30);
         }
         for (long seed = first; seed < first + 50 && wrong == 0; seed++) {
-            new OracleTest(seed).runRich(1000 * seed, 100);
+            new OracleTest(seed, false).runRich(1000 * seed, 100);
         }
         System.out.println(wrong + " of " + asked + " answers are not as due; up to " + mostWays + " ways at hand");
         if (wrong != 0) {

@@ -10,7 +10,7 @@ import java.util.TreeMap;
  * The document told over in the plainest way: it lists every way there is and compares them all.
  * It has the face of ConnectionDesk and none of its thrift; the tests hold one against the other.
  */
-final class PlainDesk {
+class PlainDesk {
     record Stop(int change, int zone) { }
 
     record Call(int stop, int comes, int leaves) { }
